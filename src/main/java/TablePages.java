@@ -71,7 +71,6 @@ public final class TablePages {
     private final Sheets sheetsLookedAt;
     private int paperWidth;
     private int pageLines;
-    private int tableWeight;
     private boolean hasNotesAtEnd;
     private boolean isStale;
 
@@ -98,8 +97,7 @@ public final class TablePages {
             throw new IllegalStateException("there are 6 columns, or there is a row");
         }
         isStale = true;
-        grid.columns.add(new Column(kind, value));
-        return grid.columns.size() - 1;
+        return grid.addColumn(kind, value);
     }
 
     public int row(int part, int group, boolean mayBreak) throws IllegalArgumentException, IllegalStateException {
@@ -115,25 +113,22 @@ public final class TablePages {
 
     public int cell(int row, int column, int rows, int columns)
             throws IndexOutOfBoundsException, IllegalArgumentException, IllegalStateException {
-        if (!grid.hasRow(row) || !grid.hasColumn(column)) {
-            throw new IndexOutOfBoundsException("no such row or column");
-        }
+        requireRow(row);
+        requireColumn(column);
         if (rows < 1 || rows > MOST_ROW_SPAN || columns < 1 || columns > MOST_COLUMN_SPAN) {
             throw new IllegalArgumentException("rows or columns is out of range");
         }
-        Cell cell = new Cell(grid.rows.get(row), column, rows, columns);
-        if (grid.cells.size() >= MOST_CELLS || !grid.isFreeFor(cell)) {
+        Row first = grid.rows.get(row);
+        if (grid.cells.size() >= MOST_CELLS || !grid.hasFreePlaces(first, column, rows, columns)) {
             throw new IllegalStateException("there are 100 cells, or no free places for it");
         }
         isStale = true;
-        return grid.addCell(cell);
+        return grid.addCell(new Cell(first, column, rows, columns));
     }
 
     public int word(int cell, int length, int cut)
             throws IndexOutOfBoundsException, IllegalArgumentException, IllegalStateException {
-        if (!grid.hasCell(cell)) {
-            throw new IndexOutOfBoundsException("no such cell");
-        }
+        requireCell(cell);
         if (length < 1 || length > MOST_WORD_LENGTH || cut < 0 || cut > length - 1) {
             throw new IllegalArgumentException("length or cut is out of range");
         }
@@ -148,9 +143,7 @@ public final class TablePages {
 
     public void figure(int cell, int hundredths, int decimals)
             throws IndexOutOfBoundsException, IllegalArgumentException, IllegalStateException {
-        if (!grid.hasCell(cell)) {
-            throw new IndexOutOfBoundsException("no such cell");
-        }
+        requireCell(cell);
         if (!isFigure(hundredths, decimals)) {
             throw new IllegalArgumentException("hundredths or decimals is out of range, or they do not agree");
         }
@@ -165,9 +158,7 @@ public final class TablePages {
     }
 
     public int empty(int cell) throws IndexOutOfBoundsException {
-        if (!grid.hasCell(cell)) {
-            throw new IndexOutOfBoundsException("no such cell");
-        }
+        requireCell(cell);
         isStale = true;
         Cell emptied = grid.cells.get(cell);
         int before = emptied.wordCount;
@@ -178,9 +169,7 @@ public final class TablePages {
 
     public int note(int cell, int lines)
             throws IndexOutOfBoundsException, IllegalArgumentException, IllegalStateException {
-        if (!grid.hasCell(cell)) {
-            throw new IndexOutOfBoundsException("no such cell");
-        }
+        requireCell(cell);
         if (lines < 0 || lines > MOST_NOTE_LINES) {
             throw new IllegalArgumentException("lines is out of range");
         }
@@ -195,9 +184,8 @@ public final class TablePages {
     }
 
     public int at(int row, int column) throws IndexOutOfBoundsException {
-        if (!grid.hasRow(row) || !grid.hasColumn(column)) {
-            throw new IndexOutOfBoundsException("no such row or column");
-        }
+        requireRow(row);
+        requireColumn(column);
         return grid.cellNumberAt(row, column);
     }
 
@@ -219,9 +207,7 @@ public final class TablePages {
     }
 
     public boolean totalled(int column) throws IndexOutOfBoundsException {
-        if (!grid.hasColumn(column)) {
-            throw new IndexOutOfBoundsException("no such column");
-        }
+        requireColumn(column);
         isStale = true;
         Column changed = grid.columns.get(column);
         changed.isTotalled = !changed.isTotalled;
@@ -229,23 +215,16 @@ public final class TablePages {
     }
 
     public boolean hide(int column) throws IndexOutOfBoundsException, IllegalStateException {
-        if (!grid.hasColumn(column)) {
-            throw new IndexOutOfBoundsException("no such column");
-        }
-        Column changed = grid.columns.get(column);
-        if (!changed.isHidden && grid.countShownColumns() == 1) {
+        requireColumn(column);
+        if (grid.isShown(column) && grid.countShownColumns() == 1) {
             throw new IllegalStateException("all columns would be hidden");
         }
         isStale = true;
-        changed.isHidden = !changed.isHidden;
-        grid.countWhatCellsShow();
-        return changed.isHidden;
+        return grid.hideOrShow(column);
     }
 
     public int sort(int column, boolean isFalling) throws IndexOutOfBoundsException, IllegalStateException {
-        if (!grid.hasColumn(column)) {
-            throw new IndexOutOfBoundsException("no such column");
-        }
+        requireColumn(column);
         if (grid.hasBodyCellOfSeveralRows()) {
             throw new IllegalStateException("a cell of the body spans several rows");
         }
@@ -257,25 +236,19 @@ public final class TablePages {
     // ---- widths
 
     public int least(int column) throws IndexOutOfBoundsException {
-        if (!grid.hasColumn(column)) {
-            throw new IndexOutOfBoundsException("no such column");
-        }
+        requireColumn(column);
         refresh();
         return widths.leastOf[column];
     }
 
     public int most(int column) throws IndexOutOfBoundsException {
-        if (!grid.hasColumn(column)) {
-            throw new IndexOutOfBoundsException("no such column");
-        }
+        requireColumn(column);
         refresh();
         return widths.mostOf[column];
     }
 
     public int width(int column) throws IndexOutOfBoundsException {
-        if (!grid.hasColumn(column)) {
-            throw new IndexOutOfBoundsException("no such column");
-        }
+        requireColumn(column);
         refresh();
         return widths.solvedOf[column];
     }
@@ -286,9 +259,7 @@ public final class TablePages {
     }
 
     public int point(int cell) throws IndexOutOfBoundsException, IllegalStateException {
-        if (!grid.hasCell(cell)) {
-            throw new IndexOutOfBoundsException("no such cell");
-        }
+        requireCell(cell);
         Cell asked = grid.cells.get(cell);
         if (!asked.showsFigure()) {
             throw new IllegalStateException("the cell has no figure, or is out");
@@ -298,9 +269,7 @@ public final class TablePages {
     }
 
     public int begins(int cell) throws IndexOutOfBoundsException, IllegalStateException {
-        if (!grid.hasCell(cell)) {
-            throw new IndexOutOfBoundsException("no such cell");
-        }
+        requireCell(cell);
         Cell asked = grid.cells.get(cell);
         if (!asked.showsFigure()) {
             throw new IllegalStateException("the cell has no figure, or is out");
@@ -312,25 +281,19 @@ public final class TablePages {
     // ---- heights
 
     public int lines(int cell) throws IndexOutOfBoundsException {
-        if (!grid.hasCell(cell)) {
-            throw new IndexOutOfBoundsException("no such cell");
-        }
+        requireCell(cell);
         refresh();
         return heights.linesOf[cell];
     }
 
     public int height(int row) throws IndexOutOfBoundsException {
-        if (!grid.hasRow(row)) {
-            throw new IndexOutOfBoundsException("no such row");
-        }
+        requireRow(row);
         refresh();
         return heights.heightOf[row];
     }
 
     public int heightByCells(int row) throws IndexOutOfBoundsException {
-        if (!grid.hasRow(row)) {
-            throw new IndexOutOfBoundsException("no such row");
-        }
+        requireRow(row);
         return trial.heightFromNothing(row, paperWidth);
     }
 
@@ -356,97 +319,70 @@ public final class TablePages {
         if (!grid.hasBordered(kind, number)) {
             throw new IndexOutOfBoundsException("no such cell, row or column");
         }
-        if (kind == OF_TABLE) {
-            int before = tableWeight;
-            tableWeight = weight;
-            return before;
-        }
-        return replace(grid.weightsOf(kind, number), side, weight);
+        return grid.setWeight(kind, number, side, weight);
     }
 
     public int edge(int row, int column, int side)
             throws IndexOutOfBoundsException, IllegalArgumentException, IllegalStateException {
-        if (!grid.hasRow(row) || !grid.hasColumn(column)) {
-            throw new IndexOutOfBoundsException("no such row or column");
-        }
+        requireRow(row);
+        requireColumn(column);
         if (side < TOP || side > LEFT) {
             throw new IllegalArgumentException("side is out of range");
         }
-        if (grid.columns.get(column).isHidden) {
+        if (!grid.isShown(column)) {
             throw new IllegalStateException("the column is hidden");
         }
         boolean isUpright = side == RIGHT || side == LEFT;
         int step = side == TOP || side == LEFT ? -1 : 1;
         int nextRow = isUpright ? row : grid.rowBeside(row, step);
         int nextColumn = isUpright ? grid.columnBeside(column, step) : column;
-        boolean isOutside = nextRow == NOTHING || nextColumn == NOTHING;
         int cell = grid.cellNumberAt(row, column);
-        int nextCell = isOutside ? NOTHING : grid.cellNumberAt(nextRow, nextColumn);
+        int nextCell = grid.cellNumberAt(nextRow, nextColumn);
         if (cell != NOTHING && cell == nextCell) {
             return 0;
         }
-        int opposite = (side + 2) % SIDES;
-        int ofCell = Math.max(grid.weightOf(OF_CELL, cell, side), grid.weightOf(OF_CELL, nextCell, opposite));
-        int ofRow = isUpright
-            ? 0 : Math.max(grid.weightOf(OF_ROW, row, side), grid.weightOf(OF_ROW, nextRow, opposite));
-        int ofColumn = isUpright
-            ? Math.max(grid.weightOf(OF_COLUMN, column, side), grid.weightOf(OF_COLUMN, nextColumn, opposite)) : 0;
-        return strongest(ofCell, ofRow, ofColumn, isOutside ? tableWeight : 0);
+        boolean isOutside = nextRow == NOTHING || nextColumn == NOTHING;
+        int ofCell = grid.greaterWeight(OF_CELL, cell, nextCell, side);
+        int ofRow = isUpright ? 0 : grid.greaterWeight(OF_ROW, row, nextRow, side);
+        int ofColumn = isUpright ? grid.greaterWeight(OF_COLUMN, column, nextColumn, side) : 0;
+        return strongest(ofCell, ofRow, ofColumn, isOutside ? grid.tableWeight : 0);
     }
 
     // ---- pages
 
     public int pages() throws IllegalStateException {
-        refresh();
-        if (!sheets.isSet) {
-            throw new IllegalStateException("the table cannot be set");
-        }
+        requireSheets();
         return sheets.pageCount;
     }
 
     public int pageOf(int row)
             throws IndexOutOfBoundsException, IllegalArgumentException, IllegalStateException {
-        if (!grid.hasRow(row)) {
-            throw new IndexOutOfBoundsException("no such row");
-        }
+        requireRow(row);
         if (!grid.isBodyRow(row)) {
             throw new IllegalArgumentException("it is no body row");
         }
-        refresh();
-        if (!sheets.isSet) {
-            throw new IllegalStateException("the table cannot be set");
-        }
+        requireSheets();
         return sheets.firstPageOf[row];
     }
 
     public int linesOn(int row, int page)
             throws IndexOutOfBoundsException, IllegalArgumentException, IllegalStateException {
-        if (!grid.hasRow(row)) {
-            throw new IndexOutOfBoundsException("no such row");
-        }
+        requireRow(row);
         if (!grid.isBodyRow(row) || page < 0) {
             throw new IllegalArgumentException("it is no body row, or page is below 0");
         }
-        refresh();
-        if (!sheets.isSet) {
-            throw new IllegalStateException("the table cannot be set");
-        }
+        requireSheets();
         return sheets.linesOfItem(row, sheets.pieceBeginOf(page), sheets.pieceEndOf(page));
     }
 
     public int shown(int cell, int page)
             throws IndexOutOfBoundsException, IllegalArgumentException, IllegalStateException {
-        if (!grid.hasCell(cell)) {
-            throw new IndexOutOfBoundsException("no such cell");
-        }
+        requireCell(cell);
         Cell asked = grid.cells.get(cell);
         if (asked.firstRow.part != BODY || page < 0) {
             throw new IllegalArgumentException("it is no cell of the body, or page is below 0");
         }
-        refresh();
-        if (!sheets.isSet) {
-            throw new IllegalStateException("the table cannot be set");
-        }
+        requireSheets();
         int begin = sheets.pieceBeginOf(page);
         int ahead = linesOfRowsOf(asked, 0, begin);
         int here = linesOfRowsOf(asked, begin, sheets.pieceEndOf(page));
@@ -454,24 +390,14 @@ public final class TablePages {
     }
 
     public int used(int page) throws IllegalStateException, IllegalArgumentException {
-        refresh();
-        if (!sheets.isSet) {
-            throw new IllegalStateException("the table cannot be set");
-        }
-        if (!sheets.hasPage(page)) {
-            throw new IllegalArgumentException("no such page");
-        }
+        requireSheets();
+        requirePage(page);
         return sheets.usedOf[page];
     }
 
     public int notesOn(int page) throws IllegalStateException, IllegalArgumentException {
-        refresh();
-        if (!sheets.isSet) {
-            throw new IllegalStateException("the table cannot be set");
-        }
-        if (!sheets.hasPage(page)) {
-            throw new IllegalArgumentException("no such page");
-        }
+        requireSheets();
+        requirePage(page);
         return sheets.noteLinesOf[page];
     }
 
@@ -485,16 +411,13 @@ public final class TablePages {
     // ---- sums
 
     public int total(int column) throws IndexOutOfBoundsException {
-        if (!grid.hasColumn(column)) {
-            throw new IndexOutOfBoundsException("no such column");
-        }
+        requireColumn(column);
         return grid.sumOfBody(0, grid.body.size(), column);
     }
 
     public int subtotal(int row, int column) throws IndexOutOfBoundsException, IllegalArgumentException {
-        if (!grid.hasRow(row) || !grid.hasColumn(column)) {
-            throw new IndexOutOfBoundsException("no such row or column");
-        }
+        requireRow(row);
+        requireColumn(column);
         if (!grid.isBodyRow(row)) {
             throw new IllegalArgumentException("it is no body row");
         }
@@ -507,31 +430,17 @@ public final class TablePages {
 
     public int carried(int page, int column)
             throws IndexOutOfBoundsException, IllegalStateException, IllegalArgumentException {
-        if (!grid.hasColumn(column)) {
-            throw new IndexOutOfBoundsException("no such column");
-        }
-        refresh();
-        if (!sheets.isSet) {
-            throw new IllegalStateException("the table cannot be set");
-        }
-        if (!sheets.hasPage(page)) {
-            throw new IllegalArgumentException("no such page");
-        }
+        requireColumn(column);
+        requireSheets();
+        requirePage(page);
         return sheets.carriedOut(page, column);
     }
 
     public int carriedByCells(int page, int column)
             throws IndexOutOfBoundsException, IllegalStateException, IllegalArgumentException {
-        if (!grid.hasColumn(column)) {
-            throw new IndexOutOfBoundsException("no such column");
-        }
-        refresh();
-        if (!sheets.isSet) {
-            throw new IllegalStateException("the table cannot be set");
-        }
-        if (!sheets.hasPage(page)) {
-            throw new IllegalArgumentException("no such page");
-        }
+        requireColumn(column);
+        requireSheets();
+        requirePage(page);
         int sum = 0;
         for (int i = 0; i < grid.cells.size(); i++) {
             Cell cell = grid.cells.get(i);
@@ -545,12 +454,44 @@ public final class TablePages {
 
     // ---- what the calls above share
 
+    private void requireColumn(int column) throws IndexOutOfBoundsException {
+        if (!grid.hasColumn(column)) {
+            throw new IndexOutOfBoundsException("no such column");
+        }
+    }
+
+    private void requireRow(int row) throws IndexOutOfBoundsException {
+        if (!grid.hasRow(row)) {
+            throw new IndexOutOfBoundsException("no such row");
+        }
+    }
+
+    private void requireCell(int cell) throws IndexOutOfBoundsException {
+        if (!grid.hasCell(cell)) {
+            throw new IndexOutOfBoundsException("no such cell");
+        }
+    }
+
+    private void requireSheets() throws IllegalStateException {
+        refresh();
+        if (!sheets.isSet) {
+            throw new IllegalStateException("the table cannot be set");
+        }
+    }
+
+    private void requirePage(int page) throws IllegalArgumentException {
+        if (!sheets.hasPage(page)) {
+            throw new IllegalArgumentException("no such page");
+        }
+    }
+
     private void refresh() {
         if (isStale) {
             widths.solve(paperWidth);
             heights.measureCells(widths.solvedOf);
             heights.stackRows();
             flow.fillSheets(pageLines, hasNotesAtEnd);
+            sheets.sumUp(grid);
             isStale = false;
         }
     }
@@ -577,15 +518,6 @@ public final class TablePages {
             default:
                 return kind == OF_TABLE;
         }
-    }
-
-    private static int replace(int[] weights, int side, int weight) {
-        if (side < 0 || side >= weights.length) {
-            return 0;
-        }
-        int before = weights[side];
-        weights[side] = weight;
-        return before;
     }
 
     private static int strongest(int ofCell, int ofRow, int ofColumn, int ofTable) {
@@ -622,7 +554,6 @@ public final class TablePages {
         final int value;
         final int[] weights = new int[SIDES];
         boolean isTotalled;
-        boolean isHidden;
 
         Column(int kind, int value) {
             this.kind = kind;
@@ -746,6 +677,8 @@ public final class TablePages {
         final ArrayList<Row> heads = new ArrayList<>();
         final ArrayList<Row> body = new ArrayList<>();
         final ArrayList<Row> feet = new ArrayList<>();
+        private final boolean[] isShownOf = new boolean[MOST_COLUMNS];
+        int tableWeight;
 
         boolean hasColumn(int number) {
             return number >= 0 && number < columns.size();
@@ -771,6 +704,15 @@ public final class TablePages {
             return part < HEAD || part > FOOT || rowsOf(part).size() >= MOST_ROWS_OF_PART[part];
         }
 
+        int addColumn(int kind, int value) {
+            int number = columns.size();
+            columns.add(new Column(kind, value));
+            if (number < MOST_COLUMNS) {
+                isShownOf[number] = true;
+            }
+            return number;
+        }
+
         int addRow(int part, int group, boolean mayBreak) {
             Row added = new Row(rows.size(), part, group, mayBreak);
             ArrayList<Row> ofPart = rowsOf(part);
@@ -780,15 +722,15 @@ public final class TablePages {
             return added.number;
         }
 
-        boolean isFreeFor(Cell cell) {
-            ArrayList<Row> ofPart = rowsOf(cell.firstRow.part);
-            int lastRow = cell.firstRow.position + cell.rowSpan;
-            int lastColumn = cell.column + cell.columnSpan;
-            if (lastRow > ofPart.size() || lastColumn > columns.size()) {
+        boolean hasFreePlaces(Row first, int column, int rowSpan, int columnSpan) {
+            ArrayList<Row> ofPart = rowsOf(first.part);
+            int endRow = first.position + rowSpan;
+            int endColumn = column + columnSpan;
+            if (endRow > ofPart.size() || endColumn > columns.size()) {
                 return false;
             }
-            for (int i = cell.firstRow.position; i < lastRow; i++) {
-                for (int j = cell.column; j < lastColumn; j++) {
+            for (int i = first.position; i < endRow; i++) {
+                for (int j = column; j < endColumn; j++) {
                     if (ofPart.get(i).places[j] != NOTHING) {
                         return false;
                     }
@@ -800,10 +742,12 @@ public final class TablePages {
         int addCell(Cell cell) {
             int number = cells.size();
             ArrayList<Row> ofPart = rowsOf(cell.firstRow.part);
-            int lastRow = Math.min(cell.firstRow.position + cell.rowSpan, ofPart.size());
-            int lastColumn = Math.min(cell.column + cell.columnSpan, columns.size());
-            for (int i = cell.firstRow.position; i < lastRow; i++) {
-                Arrays.fill(ofPart.get(i).places, cell.column, lastColumn, number);
+            int endRow = Math.min(cell.firstRow.position + cell.rowSpan, ofPart.size());
+            int endColumn = Math.min(cell.column + cell.columnSpan, columns.size());
+            for (int i = cell.firstRow.position; i < endRow; i++) {
+                for (int j = cell.column; j < endColumn; j++) {
+                    ofPart.get(i).places[j] = number;
+                }
             }
             cell.shownColumns = countShown(cell);
             cells.add(cell);
@@ -815,11 +759,11 @@ public final class TablePages {
         }
 
         boolean isShown(int column) {
-            return hasColumn(column) && !columns.get(column).isHidden;
+            return column >= 0 && column < MOST_COLUMNS && isShownOf[column];
         }
 
         boolean isShownContent(int column) {
-            return isShown(column) && columns.get(column).kind == OF_CONTENT;
+            return isShown(column) && column < columns.size() && columns.get(column).kind == OF_CONTENT;
         }
 
         int countShownColumns() {
@@ -846,14 +790,19 @@ public final class TablePages {
             return count;
         }
 
-        void countWhatCellsShow() {
+        /** Returns whether the column is hidden then. */
+        boolean hideOrShow(int column) {
+            if (column >= 0 && column < MOST_COLUMNS) {
+                isShownOf[column] = !isShownOf[column];
+            }
             for (int i = 0; i < cells.size(); i++) {
                 cells.get(i).shownColumns = countShown(cells.get(i));
             }
+            return !isShown(column);
         }
 
         boolean isTotalled(int column) {
-            return isShown(column) && columns.get(column).isTotalled;
+            return isShown(column) && column < columns.size() && columns.get(column).isTotalled;
         }
 
         /** A bit for each column that is totalled. */
@@ -887,13 +836,15 @@ public final class TablePages {
         }
 
         boolean hasFigureAt(Row row, int column) {
-            int number = cellNumberAt(row.number, column);
-            return hasCell(number) && isShown(column) && cells.get(number).hasFigure;
+            int number = isShown(column) ? row.places[column] : NOTHING;
+            return number >= 0 && number < cells.size() && cells.get(number).hasFigure;
         }
 
+        /** The hundredths of the figure at a place; 0 without one. */
         int figureAt(Row row, int column) {
-            int number = cellNumberAt(row.number, column);
-            return hasFigureAt(row, column) && hasCell(number) ? cells.get(number).hundredths : 0;
+            int number = isShown(column) ? row.places[column] : NOTHING;
+            boolean hasFigure = number >= 0 && number < cells.size() && cells.get(number).hasFigure;
+            return hasFigure ? cells.get(number).hundredths : 0;
         }
 
         int sumOfBody(int begin, int end, int column) {
@@ -972,24 +923,49 @@ public final class TablePages {
             }
         }
 
-        int[] weightsOf(int kind, int number) {
-            if (kind == OF_CELL && hasCell(number)) {
-                return cells.get(number).weights;
+        /** Returns the weight before. */
+        int setWeight(int kind, int number, int side, int weight) {
+            int before;
+            if (kind == OF_TABLE) {
+                before = tableWeight;
+                tableWeight = weight;
+            } else {
+                before = weightOf(kind, number, side);
+                putWeight(kind, number, side, weight);
             }
-            if (kind == OF_ROW && hasRow(number)) {
-                return rows.get(number).weights;
-            }
-            if (kind == OF_COLUMN && hasColumn(number)) {
-                return columns.get(number).weights;
-            }
-            return new int[SIDES];
+            return before;
         }
 
-        int weightOf(int kind, int number, int side) {
-            if (number == NOTHING || side < 0 || side >= SIDES) {
+        private void putWeight(int kind, int number, int side, int weight) {
+            if (side < 0 || side >= SIDES) {
+                return;
+            }
+            if (kind == OF_CELL && hasCell(number)) {
+                cells.get(number).weights[side] = weight;
+            } else if (kind == OF_ROW && hasRow(number)) {
+                rows.get(number).weights[side] = weight;
+            } else if (kind == OF_COLUMN && hasColumn(number)) {
+                columns.get(number).weights[side] = weight;
+            }
+        }
+
+        private int weightOf(int kind, int number, int side) {
+            if (side < 0 || side >= SIDES) {
                 return 0;
             }
-            return weightsOf(kind, number)[side];
+            if (kind == OF_CELL && hasCell(number)) {
+                return cells.get(number).weights[side];
+            }
+            if (kind == OF_ROW && hasRow(number)) {
+                return rows.get(number).weights[side];
+            }
+            return kind == OF_COLUMN && hasColumn(number) ? columns.get(number).weights[side] : 0;
+        }
+
+        /** Of two neighbours the greater weight at the edge between them; the next one may be NOTHING. */
+        int greaterWeight(int kind, int number, int next, int side) {
+            int opposite = (side + 2) % SIDES;
+            return Math.max(weightOf(kind, number, side), weightOf(kind, next, opposite));
         }
 
         /** The row above or below, of whatever part; NOTHING at the outside. */
@@ -1115,30 +1091,27 @@ public final class TablePages {
                     Cell cell = grid.cells.get(i);
                     if (cell.shownColumns == shown) {
                         int needed = isMost ? cell.mostByWords() : cell.leastByWords();
-                        widen(cell, widthOf, needed - grid.widthOfCell(cell, widthOf));
+                        int lacking = needed - grid.widthOfCell(cell, widthOf);
+                        for (int j = 0; j < lacking; j++) {
+                            widenOneColumn(cell, widthOf);
+                        }
                     }
                 }
             }
         }
 
-        private void widen(Cell cell, int[] widthOf, int by) {
-            for (int i = 0; i < by; i++) {
-                int at = columnToWiden(cell, widthOf);
-                if (at >= 0 && at < widthOf.length) {
-                    widthOf[at]++;
-                }
-            }
-        }
-
-        private int columnToWiden(Cell cell, int[] widthOf) {
+        private void widenOneColumn(Cell cell, int[] widthOf) {
             int narrowest = NOTHING;
             for (int i = cell.column; i < cell.column + cell.columnSpan && i < widthOf.length; i++) {
-                boolean isTaken = grid.isShown(i) && grid.columns.get(i).kind != FIXED;
+                boolean isTaken = grid.isShown(i) && i < grid.columns.size() && grid.columns.get(i).kind != FIXED;
                 if (isTaken && (narrowest == NOTHING || widthOf[i] < widthOf[narrowest])) {
                     narrowest = i;
                 }
             }
-            return narrowest == NOTHING ? lastShownOf(cell) : narrowest;
+            int widened = narrowest == NOTHING ? lastShownOf(cell) : narrowest;
+            if (widened >= 0 && widened < widthOf.length) {
+                widthOf[widened]++;
+            }
         }
 
         private int lastShownOf(Cell cell) {
@@ -1221,14 +1194,16 @@ public final class TablePages {
 
         void stackRows() {
             Arrays.fill(heightOf, 1);
+            int greatestSpan = 1;
             for (int i = 0; i < grid.cells.size() && i < MOST_CELLS; i++) {
                 Cell cell = grid.cells.get(i);
                 int row = cell.firstRow.number;
                 if (cell.rowSpan == 1 && row < MOST_ROWS) {
                     heightOf[row] = Math.max(heightOf[row], linesOf[i]);
                 }
+                greatestSpan = Math.max(greatestSpan, cell.rowSpan);
             }
-            for (int span = 2; span <= MOST_ROW_SPAN; span++) {
+            for (int span = 2; span <= greatestSpan && span <= MOST_ROW_SPAN; span++) {
                 for (int i = 0; i < grid.cells.size() && i < MOST_CELLS; i++) {
                     if (grid.cells.get(i).rowSpan == span) {
                         lengthenLastRow(grid.cells.get(i), linesOf[i]);
@@ -1267,6 +1242,7 @@ public final class TablePages {
         private final Grid grid;
         private final Widths widths;
         private final Heights heights;
+        private final int[] choicesOf = new int[MOST_COLUMNS];
         private final int[] extraOf = new int[MOST_COLUMNS];
         // Many widths that are tried give a cell the same width: its lines are found but once for each.
         private final int[] knownLines = new int[MOST_CELLS * (MOST_EXTRA_TOGETHER + 1)];
@@ -1290,10 +1266,12 @@ public final class TablePages {
             Arrays.fill(knownLines, NOTHING);
             int rest = paperWidth - grid.widthTogether(widths.solvedOf);
             int choices = countChoices();
-            int least = heightOfChoice(0);
-            for (int choice = 1; choice < choices; choice++) {
-                if (chooseExtras(choice) <= rest) {
-                    least = Math.min(least, heightOfChoice(choice));
+            int least = 0;
+            for (int choice = 0; choice < choices; choice++) {
+                // The first choice is the least widths, which count even if the table is over with them.
+                if (chooseExtras(choice) <= rest || choice == 0) {
+                    int tried = heightOfChoice();
+                    least = choice == 0 ? tried : Math.min(least, tried);
                 }
             }
             return least;
@@ -1301,23 +1279,18 @@ public final class TablePages {
 
         private void takeLeastWidths() {
             for (int i = 0; i < MOST_COLUMNS; i++) {
+                choicesOf[i] = 1;
                 if (grid.isShownContent(i)) {
                     widths.solvedOf[i] = widths.leastOf[i];
+                    choicesOf[i] += Math.min(MOST_EXTRA, widths.mostOf[i] - widths.leastOf[i]);
                 }
             }
-        }
-
-        private int widthsOfColumn(int column) {
-            if (column < 0 || column >= MOST_COLUMNS || !grid.isShownContent(column)) {
-                return 1;
-            }
-            return 1 + Math.min(MOST_EXTRA, widths.mostOf[column] - widths.leastOf[column]);
         }
 
         private int countChoices() {
             int count = 1;
             for (int i = 0; i < MOST_COLUMNS; i++) {
-                count *= widthsOfColumn(i);
+                count *= choicesOf[i];
             }
             return count;
         }
@@ -1327,7 +1300,7 @@ public final class TablePages {
             int digits = choice;
             int sum = 0;
             for (int i = 0; i < MOST_COLUMNS; i++) {
-                int base = Math.max(1, widthsOfColumn(i));
+                int base = Math.max(1, choicesOf[i]);
                 extraOf[i] = digits % base;
                 digits /= base;
                 sum += extraOf[i];
@@ -1335,8 +1308,7 @@ public final class TablePages {
             return sum;
         }
 
-        private int heightOfChoice(int choice) {
-            chooseExtras(choice);
+        private int heightOfChoice() {
             for (int i = 0; i < grid.cells.size() && i < MOST_CELLS; i++) {
                 Cell cell = grid.cells.get(i);
                 heights.linesOf[i] = cell.isOut() ? 0 : linesOfCell(i, cell);
@@ -1447,24 +1419,25 @@ public final class TablePages {
             }
         }
 
+        /** Finds what is carried out of each page. */
         void sumUp(Grid grid) {
             for (int page = 0; page < pageCount && page < MOST_PIECES; page++) {
-                for (int column = 0; column < MOST_COLUMNS; column++) {
-                    carriedOf[page * MOST_COLUMNS + column] =
-                        carriedOut(page - 1, column) + sumOfRowsBegunOn(page, column, grid);
+                for (int i = 0; i < MOST_COLUMNS; i++) {
+                    carriedOf[page * MOST_COLUMNS + i] = carriedOut(page - 1, i);
+                }
+                int end = Math.min(pieceEndOf(page), MOST_PIECES);
+                for (int i = pieceBeginOf(page); i < end; i++) {
+                    if (firstLineOf[i] == 0 && grid.isBodyRow(itemOf[i])) {
+                        addFigures(grid.rows.get(itemOf[i]), page, grid);
+                    }
                 }
             }
         }
 
-        private int sumOfRowsBegunOn(int page, int column, Grid grid) {
-            int sum = 0;
-            int end = Math.min(pieceEndOf(page), MOST_PIECES);
-            for (int i = pieceBeginOf(page); i < end; i++) {
-                if (firstLineOf[i] == 0 && grid.isBodyRow(itemOf[i])) {
-                    sum += grid.figureAt(grid.rows.get(itemOf[i]), column);
-                }
+        private void addFigures(Row row, int page, Grid grid) {
+            for (int i = 0; i < MOST_COLUMNS && hasPage(page); i++) {
+                carriedOf[page * MOST_COLUMNS + i] += grid.figureAt(row, i);
             }
-            return sum;
         }
 
         int countDifferencesTo(Sheets other) {
@@ -1513,12 +1486,14 @@ public final class TablePages {
             pageCount = other.pageCount;
             pieceCount = other.pieceCount;
             totalledColumns = other.totalledColumns;
-            System.arraycopy(other.itemOf, 0, itemOf, 0, MOST_PIECES);
-            System.arraycopy(other.firstLineOf, 0, firstLineOf, 0, MOST_PIECES);
-            System.arraycopy(other.lineCountOf, 0, lineCountOf, 0, MOST_PIECES);
-            System.arraycopy(other.firstPieceOf, 0, firstPieceOf, 0, MOST_PIECES);
-            System.arraycopy(other.noteLinesOf, 0, noteLinesOf, 0, MOST_PIECES);
-            System.arraycopy(other.carriedOf, 0, carriedOf, 0, MOST_PIECES * MOST_COLUMNS);
+            int pieces = Math.min(pieceCount, MOST_PIECES);
+            int pages = Math.min(pageCount, MOST_PIECES);
+            System.arraycopy(other.itemOf, 0, itemOf, 0, pieces);
+            System.arraycopy(other.firstLineOf, 0, firstLineOf, 0, pieces);
+            System.arraycopy(other.lineCountOf, 0, lineCountOf, 0, pieces);
+            System.arraycopy(other.firstPieceOf, 0, firstPieceOf, 0, pages);
+            System.arraycopy(other.noteLinesOf, 0, noteLinesOf, 0, pages);
+            System.arraycopy(other.carriedOf, 0, carriedOf, 0, pages * MOST_COLUMNS);
         }
     }
 
@@ -1560,7 +1535,6 @@ public final class TablePages {
                 }
             }
             sheets.addFrame(headsAndFeet, carryLines);
-            sheets.sumUp(grid);
         }
 
         private void collectItems(boolean hasNotesAtEnd) {
