@@ -1102,13 +1102,17 @@ public final class TablePages {
 
         private void widenOneColumn(Cell cell, int[] widthOf) {
             int narrowest = NOTHING;
+            int last = NOTHING;
             for (int i = cell.column; i < cell.column + cell.columnSpan && i < widthOf.length; i++) {
-                boolean isTaken = grid.isShown(i) && i < grid.columns.size() && grid.columns.get(i).kind != FIXED;
-                if (isTaken && (narrowest == NOTHING || widthOf[i] < widthOf[narrowest])) {
-                    narrowest = i;
+                if (grid.isShown(i)) {
+                    last = i;
+                    boolean isTaken = i < grid.columns.size() && grid.columns.get(i).kind != FIXED;
+                    if (isTaken && (narrowest == NOTHING || widthOf[i] < widthOf[narrowest])) {
+                        narrowest = i;
+                    }
                 }
             }
-            int widened = narrowest == NOTHING ? lastShownOf(cell) : narrowest;
+            int widened = narrowest == NOTHING ? last : narrowest;
             if (widened >= 0 && widened < widthOf.length) {
                 widthOf[widened]++;
             }
@@ -1375,7 +1379,7 @@ public final class TablePages {
 
         void put(int item, int firstLine, int lineCount, int noteLines) {
             int page = pageCount - 1;
-            if (pieceCount >= MOST_PIECES || !hasPage(page)) {
+            if (pieceCount >= MOST_PIECES || page < 0 || page >= MOST_PIECES) {
                 return;
             }
             itemOf[pieceCount] = item;
@@ -1482,7 +1486,6 @@ public final class TablePages {
         }
 
         void takeFrom(Sheets other) {
-            isSet = other.isSet;
             pageCount = other.pageCount;
             pieceCount = other.pieceCount;
             totalledColumns = other.totalledColumns;
