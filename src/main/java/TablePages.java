@@ -351,6 +351,7 @@ public final class TablePages {
     // ---- pages
 
     public int pages() throws IllegalStateException {
+        refresh();
         requireSheets();
         return sheets.pageCount;
     }
@@ -361,6 +362,7 @@ public final class TablePages {
         if (!grid.isBodyRow(row)) {
             throw new IllegalArgumentException("it is no body row");
         }
+        refresh();
         requireSheets();
         return sheets.firstPageOf[row];
     }
@@ -371,6 +373,7 @@ public final class TablePages {
         if (!grid.isBodyRow(row) || page < 0) {
             throw new IllegalArgumentException("it is no body row, or page is below 0");
         }
+        refresh();
         requireSheets();
         return sheets.linesOfItem(row, sheets.pieceBeginOf(page), sheets.pieceEndOf(page));
     }
@@ -382,6 +385,7 @@ public final class TablePages {
         if (asked.firstRow.part != BODY || page < 0) {
             throw new IllegalArgumentException("it is no cell of the body, or page is below 0");
         }
+        refresh();
         requireSheets();
         int begin = sheets.pieceBeginOf(page);
         int ahead = linesOfRowsOf(asked, 0, begin);
@@ -390,12 +394,14 @@ public final class TablePages {
     }
 
     public int used(int page) throws IllegalStateException, IllegalArgumentException {
+        refresh();
         requireSheets();
         requirePage(page);
         return sheets.usedOf[page];
     }
 
     public int notesOn(int page) throws IllegalStateException, IllegalArgumentException {
+        refresh();
         requireSheets();
         requirePage(page);
         return sheets.noteLinesOf[page];
@@ -431,6 +437,7 @@ public final class TablePages {
     public int carried(int page, int column)
             throws IndexOutOfBoundsException, IllegalStateException, IllegalArgumentException {
         requireColumn(column);
+        refresh();
         requireSheets();
         requirePage(page);
         return sheets.carriedOut(page, column);
@@ -439,6 +446,7 @@ public final class TablePages {
     public int carriedByCells(int page, int column)
             throws IndexOutOfBoundsException, IllegalStateException, IllegalArgumentException {
         requireColumn(column);
+        refresh();
         requireSheets();
         requirePage(page);
         int sum = 0;
@@ -473,7 +481,6 @@ public final class TablePages {
     }
 
     private void requireSheets() throws IllegalStateException {
-        refresh();
         if (!sheets.isSet) {
             throw new IllegalStateException("the table cannot be set");
         }
