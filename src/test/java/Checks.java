@@ -79,6 +79,23 @@ final class Checks {
         due(what + ": all answers behind it are as if it had not been", everything(make, call), untouched);
     }
 
+    /** A change counts as much for an object that was asked for all ahead of it as for one that was not. */
+    static void seen(Make make, String what, Call change) {
+        String unasked = everything(make, change);
+        String asked = everything(make, x -> {
+            answersOfColumns(x);
+            answersOfPages(x);
+            change.on(x);
+        });
+        // An object that was asked has been looked at, so the answers of look() are left out.
+        due(what + ": behind it all answers as if they had not been asked for ahead of it", withoutLook(asked),
+            withoutLook(unasked));
+    }
+
+    private static String withoutLook(String answers) {
+        return answers.replaceAll("look \\w+", "");
+    }
+
     private static String everything(Make make, Call first) {
         StringBuilder all = new StringBuilder();
         for (int group = 0; group < 12; group++) {
@@ -126,7 +143,8 @@ final class Checks {
             s.append(answer(() -> x.total(c)));
         }
         s.append(answer(x::over)).append(answer(x::tableHeight)).append(answer(x::leastHeight));
-        return s.append(answer(x::pages)).append(answer(x::look)).append(answer(x::look)).toString();
+        s.append(answer(x::pages)).append("look ").append(answer(x::look));
+        return s.append("look ").append(answer(x::look)).toString();
     }
 
     private static String answersOfRows(TablePages x) {

@@ -688,6 +688,11 @@ public final class EdgesOfPromisesTest {
             };
             Checks.changesNothing(make, STATE, "sort(0, false)", x -> x.sort(0, false));
             Checks.changesNothing(make, STATE, "sort(1, true)", x -> x.sort(1, true));
+            for (int rows = 2; rows <= 4; rows++) {
+                TablePages x = Checks.content(1, 5);
+                x.cell(1, 0, rows, 1);
+                Checks.refused(x, STATE, "the first cell spans " + rows + " rows", z -> z.sort(0, false));
+            }
             TablePages y = sortable(2, 1);
             y.row(0, 0, false);
             y.row(0, 0, false);
@@ -985,6 +990,40 @@ public final class EdgesOfPromisesTest {
         });
     }
 
+    /** What changes something, in RICH; the second of two is answered by what the first one left. */
+    private static void changes() {
+        Checks.holds("what was asked ahead of a change does not count behind it", () -> {
+            Checks.seen(RICH, "row of the head", x -> x.row(0, 0, false));
+            Checks.seen(RICH, "row of the body", x -> x.row(1, 3, true));
+            Checks.seen(RICH, "row of the foot", x -> x.row(2, 0, false));
+            Checks.seen(RICH, "cell", x -> x.word(x.cell(2, 0, 1, 1), 20, 0));
+            Checks.seen(RICH, "word", x -> x.word(1, 20, 0));
+            Checks.seen(RICH, "word in a cell over rows", x -> x.word(4, 20, 0));
+            Checks.seen(RICH, "figure", x -> x.figure(2, 1000000, 0));
+            Checks.seen(RICH, "empty of words", x -> x.empty(0));
+            Checks.seen(RICH, "empty of a figure", x -> x.empty(2));
+            Checks.seen(RICH, "note", x -> x.note(4, 3));
+            Checks.seen(RICH, "note away", x -> x.note(1, 0));
+            Checks.seen(RICH, "setPaper", x -> x.setPaper(26, 8));
+            Checks.seen(RICH, "notesAtEnd", TablePages::notesAtEnd);
+            Checks.seen(RICH, "totalled", x -> x.totalled(2));
+            Checks.seen(RICH, "hide", x -> x.hide(2));
+            Checks.seen(RICH, "show", x -> x.hide(3));
+            Checks.seen(RICH, "border", x -> x.border(3, 0, 0, 5));
+            Checks.seen(SIX, "column", x -> x.hide(0));
+            Checks.seen(COLUMN, "column of content", x -> x.column(0, 1));
+            Checks.seen(COLUMN, "fixed column", x -> x.column(1, 20));
+            Checks.seen(COLUMN, "share", x -> x.column(2, 20));
+            Checks.seen(NONE, "first column", x -> x.column(2, 20));
+            Checks.seen(() -> {
+                TablePages x = sortable(2, 1, 3);
+                x.setPaper(9, 3);
+                x.totalled(0);
+                return x;
+            }, "sort", x -> x.sort(0, true));
+        });
+    }
+
     // ---- pages
 
     private static void pages() {
@@ -1017,6 +1056,13 @@ public final class EdgesOfPromisesTest {
             int[] due = {0, 0, 2, 3};
             Checks.due("row 1", Checks.spread(x, 1), "2 3 2 0");
             for (int row = 0; row < 4; row++) Checks.due("row " + row, x.pageOf(row), due[row]);
+            TablePages y = sortable(3, 2, 1);
+            y.setPaper(60, 2);
+            for (int row = 0; row < 3; row++) Checks.due("row " + row, y.pageOf(row), row / 2);
+            y.sort(0, false);
+            for (int row = 0; row < 3; row++) Checks.due("sorted, row " + row, y.pageOf(row), row == 0 ? 1 : 0);
+            Checks.due("carried out of page 0", y.carried(0, 0), 300);
+            Checks.due("cell by cell", y.carriedByCells(0, 0), 300);
         });
         Checks.holds("Promise 29: Throws IndexOutOfBoundsException if there is no such row", () -> {
             noSuch(6, RICH, "pageOf(#)", TablePages::pageOf);
@@ -1069,6 +1115,14 @@ public final class EdgesOfPromisesTest {
             Checks.due("behind the last page", x.shown(c, 3), 0);
             Checks.due("far behind", x.shown(c, MAX), 0);
             Checks.due("an empty cell", x.shown(x.cell(2, 1, 1, 1), 2), 0);
+            int first = x.cell(0, 1, 1, 1);
+            x.word(first, 20, 0);
+            Checks.due("1 line of a row of 2", Checks.shown(x, first), "1 0 0");
+            TablePages y = Checks.sheet(4, -7);
+            int short2 = y.cell(0, 1, 1, 1);
+            for (int i = 0; i < 5; i++) y.word(short2, 20, 0);
+            y.setPaper(30, 4);
+            Checks.due("5 lines of a row of 7", Checks.shown(y, short2), "4 1");
             x.hide(1);
             Checks.due("one that is out", Checks.shown(x, c), "0 0 0");
         });
@@ -1211,6 +1265,14 @@ public final class EdgesOfPromisesTest {
             x.figure(4, 900, 0);
             x.figure(7, 900, 0);
             Checks.due("a column that is not totalled", x.look(), 0);
+            for (int column = 0; column < 6; column++) {
+                TablePages y = Checks.content(6, 2);
+                int c = Checks.figure(y, 0, column, 100, 0);
+                y.totalled(column);
+                y.look();
+                y.figure(c, 200, 0);
+                Checks.due("each column that is totalled, here " + column, y.look(), 1);
+            }
         });
         Checks.holds("Promise 34: a table that cannot be set has no pages", () -> {
             TablePages x = Checks.sheet(3, 1, 1, 1, 1);
@@ -1329,6 +1391,7 @@ public final class EdgesOfPromisesTest {
         heights();
         borders();
         edge();
+        changes();
         pages();
         pageOf();
         linesOn();

@@ -277,6 +277,61 @@ public final class EdgesOfTermsTest {
         });
     }
 
+    private static void fullTables() {
+        Checks.holds("at most 24, each in a group: 24 subtotals, the total, and notes at the end", () -> {
+            TablePages x = Checks.columns(1, 9, 0, 1);
+            for (int i = 0; i < 24; i++) x.row(1, 1 + i % 2, false);
+            for (int i = 0; i < 24; i++) Checks.figure(x, i, 1, 100 * i, 0);
+            x.totalled(1);
+            x.notesAtEnd();
+            x.note(23, 3);
+            x.setPaper(60, 100);
+            Checks.due("lines on one page", Checks.used(x), "52");
+            Checks.due("lines of notes", Checks.notes(x), "3");
+            for (int i = 0; i < 24; i++) Checks.due("subtotal " + i, x.subtotal(i, 1), 100 * i);
+            Checks.due("carried out", x.carried(0, 1), 27600);
+        });
+        Checks.holds("at most 24 rows of 24 lines, 252 lines of notes, a line on each page", () -> {
+            TablePages x = Checks.columns(1, 9, 1, 1, 1, 1, 1, 1);
+            for (int i = 0; i < 24; i++) x.row(1, 1 + i % 2, true);
+            for (int i = 0; i < 24; i++) {
+                int c = x.cell(i, 0, 1, 1);
+                for (int j = 0; j < 12; j++) x.word(c, 16, 8);
+                x.note(c, 3);
+            }
+            for (int i = 0; i < 60; i++) x.note(x.cell(i / 3, 1 + i % 3, 1, 1), 3);
+            x.totalled(0);
+            x.notesAtEnd();
+            x.setPaper(60, 4);
+            Checks.due("pages: 1, 573, 24, 1, and 251 for the notes", x.pages(), 850);
+            Checks.due("the last row begins", x.pageOf(23), 573);
+            Checks.due("its line", x.linesOn(23, 573) + x.linesOn(23, 596), 2);
+            Checks.due("the last page", x.used(849), 4);
+            Checks.due("its notes", x.notesOn(849), 2);
+            Checks.due("the notes of the one before", x.notesOn(848), 1);
+            Checks.due("what is carried out of it", x.carried(849, 0), 0);
+            Checks.refused(x, Checks.ARGUMENT, "a page 850", y -> y.used(850));
+            Checks.due("all pages are new", x.look(), 850);
+            Checks.due("none is", x.look(), 0);
+            x.setPaper(60, 3);
+            Checks.refused(x, Checks.STATE, "no line on a page", y -> y.pages());
+        });
+        Checks.holds("at most 100 cells, the last one over three columns of content", () -> {
+            TablePages x = Checks.columns(0, 1, 0, 1, 0, 1, 1, 5, 1, 5, 1, 5);
+            Checks.body(x, 24);
+            for (int i = 0; i < 72; i++) x.cell(i / 3, 3 + i % 3, 1, 1);
+            for (int i = 0; i < 27; i++) x.cell(i / 3, i % 3, 1, 1);
+            for (int i = 72; i < 75; i++) for (int j = 0; j < 8; j++) x.word(i, 1, 0);
+            Checks.due("the hundredth", Checks.wide(x, 10, 0, 3, 5, 5, 5, 5, 5, 5, 5, 5, 5, 5), 99);
+            Checks.due("9, 9 and 9: 2 and 2 and 22 rows", x.leastHeight(), 26);
+            x.hide(0);
+            x.hide(1);
+            x.hide(2);
+            Checks.due("it is out", x.lines(99), 0);
+            Checks.due("24 rows of 1", x.tableHeight(), 24);
+        });
+    }
+
     // ---- least and most widths
 
     private static int leastOf(int length, int cut) {
@@ -407,6 +462,16 @@ public final class EdgesOfTermsTest {
             Checks.due("10 of 5 and 5", totalledLeast(5, 5), 2);
             Checks.due("10 of 5, 5 and not -9", totalledLeast(5, -9, 5), 2);
             Checks.due("1 of 1 and 0", totalledLeast(1, 0), 1);
+            Checks.due("100 of 50, 50 and not -1", totalledLeast(50, -1, 50), 3);
+            TablePages y = Checks.content(1, 4);
+            Checks.figure(y, 0, 0, 500, 2);
+            Checks.figure(y, 1, 0, 499, 2);
+            y.totalled(0);
+            Checks.due("9.99 of 5.00 and 4.99", y.least(0), 4);
+            y.figure(0, 5000, 2);
+            y.figure(1, 4999, 2);
+            Checks.figure(y, 2, 0, -100, 0);
+            Checks.due("99.99 of 50.00, 49.99 and not -1", y.least(0), 5);
             TablePages x = Checks.content(1, 24);
             for (int i = 0; i < 24; i++) Checks.figure(x, i, 0, 1000000, 0);
             Checks.due("not totalled", x.least(0), 5);
@@ -420,6 +485,23 @@ public final class EdgesOfTermsTest {
             Checks.due("-10 of -5 and -5", totalledLeast(-5, -5), 3);
             Checks.due("-10 of -5, -5 and not 9", totalledLeast(-5, 9, -5), 3);
             Checks.due("-1 of -1 and 0", totalledLeast(-1, 0), 2);
+            TablePages x = Checks.content(1, 2);
+            Checks.figure(x, 0, 0, -500, 2);
+            Checks.figure(x, 1, 0, -499, 2);
+            x.totalled(0);
+            Checks.due("-9.99 of -5.00 and -4.99", x.least(0), 5);
+            Checks.figure(x, x.row(1, 0, false), 0, -1, 2);
+            Checks.due("-10.00 of these and -0.01", x.least(0), 6);
+        });
+        Checks.holds("of all body figures, once each, as often as it is asked for", () -> {
+            TablePages x = Checks.content(1, 2);
+            Checks.figure(x, 0, 0, 400, 0);
+            Checks.figure(x, 1, 0, -400, 0);
+            x.totalled(0);
+            for (int i = 0; i < 5; i++) {
+                x.setPaper(60, 30);
+                Checks.due("4 and -4", x.least(0), 2);
+            }
         });
         Checks.holds("0 if there are none", () -> {
             Checks.due("0 above and below", totalledLeast(0), 1);
@@ -469,6 +551,12 @@ public final class EdgesOfTermsTest {
             Checks.due("5 of 5 and 12.34", x.most(0), 5);
             x.figure(2, 123456, 2);
             Checks.due("7 of 5 and 1234.56", x.most(0), 7);
+            TablePages y = Checks.content(2, 2);
+            Checks.figure(y, 0, 0, -1000000, 2);
+            Checks.wide(y, 1, 0, 2, 4, 5);
+            Checks.due("10 over -10000.00 and nothing", Checks.mosts(y, 2), "9 0");
+            y.word(1, 1, 0);
+            Checks.due("12 over them", Checks.mosts(y, 2), "9 2");
         });
     }
 
@@ -489,6 +577,13 @@ public final class EdgesOfTermsTest {
             Checks.due("14 over 4, 4 and 4", Checks.leasts(y, 3), "4 4 4");
             y.word(c, 15, 0);
             Checks.due("15 over 4, 4 and 4", Checks.leasts(y, 3), "5 4 4");
+            TablePages six = Checks.content(6, 1);
+            int all = Checks.wide(six, 0, 0, 6, 5);
+            Checks.due("5 over six, with 5 between", Checks.leasts(six, 6), "0 0 0 0 0 0");
+            six.word(all, 6, 0);
+            Checks.due("6 over six", Checks.leasts(six, 6), "1 0 0 0 0 0");
+            six.word(all, 20, 0);
+            Checks.due("20 over six", Checks.leasts(six, 6), "3 3 3 2 2 2");
         });
         Checks.holds("Then cells that show several columns are gone through, those that show fewer first", () -> {
             TablePages x = Checks.content(4, 2);
@@ -558,6 +653,12 @@ public final class EdgesOfTermsTest {
             Checks.wide(x, 1, 0, 2, 20);
             Checks.due("20 over 2 and 5", Checks.leasts(x, 2), "10 9");
             Checks.due("20 over 11 and 5 gives 8, below 9", Checks.mosts(x, 2), "11 9");
+            TablePages y = Checks.content(2, 2);
+            Checks.words(y, 0, 0, 5);
+            Checks.words(y, 0, 1, 2, 2, 2, 2);
+            Checks.wide(y, 1, 0, 2, 20);
+            Checks.due("20 over 5 and 2", Checks.leasts(y, 2), "10 9");
+            Checks.due("20 over 5 and 11 gives 8, below 10", Checks.mosts(y, 2), "10 11");
         });
     }
 
@@ -662,12 +763,26 @@ public final class EdgesOfTermsTest {
             Checks.due("5 of 4", Checks.widths(lacking(5, 2), 1), "7");
             Checks.due("12 of 4 and 8", Checks.widths(lacking(12, 2, 3), 2), "7 11");
             Checks.due("11 of 4 and 8", Checks.widths(lacking(11, 2, 3), 2), "7 10");
+            TablePages x = Checks.content(1, 1);
+            x.word(x.cell(0, 0, 1, 1), 3, 1);
+            x.setPaper(3, 30);
+            Checks.due("1 of 1", x.width(0), 3);
         });
         Checks.holds("each gets the rest times what it lacks of its most width, divided by what all lack together, rounded "
             + "down", () -> {
             Checks.due("6 of 4 and 8", Checks.widths(lacking(6, 2, 3), 2), "5 7");
             Checks.due("7 of 4 and 8: 2 1/3 and 4 2/3, and 1", Checks.widths(lacking(7, 2, 3), 2), "6 7");
             Checks.due("8 of 4 and 8: 2 2/3 and 5 1/3, and 1", Checks.widths(lacking(8, 2, 3), 2), "6 8");
+            Checks.due("2 of 4, 4 and 8: 1/2, 1/2 and 1, and 1", Checks.widths(lacking(2, 2, 2, 3), 3), "4 3 4");
+            TablePages x = Checks.columns(0, 1, 0, 1, 0, 1, 1, 5, 2, 20, 0, 1);
+            Checks.body(x, 2);
+            Checks.words(x, 0, 0, 3, 3);
+            Checks.words(x, 0, 1, 3, 3);
+            Checks.words(x, 0, 2, 3, 3, 3);
+            Checks.words(x, 0, 5, 20, 20, 20);
+            x.hide(5);
+            x.setPaper(24, 30);
+            Checks.due("fixed ones, shares and hidden ones lack nothing", Checks.widths(x, 6), "4 3 4 5 4 0");
         });
         Checks.holds("and what is left of the rest goes to the first of them that still lack something, 1 to each", () -> {
             Checks.due("the first lacks nothing", Checks.widths(lacking(1, 1, 2, 2), 3), "3 4 3");
@@ -735,6 +850,9 @@ public final class EdgesOfTermsTest {
             Checks.due("4 + 1 + 4 and 1 in 10, then 5 and 4", lines(10, 4, 0, 9, 4, 4, 0), 2);
             Checks.due("4 + 1 + 5 and 1 do not go into 10: 9, then 4", lines(10, 4, 0, 9, 5, 4, 0), 3);
             Checks.due("2 and 1 in an empty line of 4, 4 in the next", lines(4, 6, 2), 2);
+            Checks.due("4 + 1 + 1 and 1 in 7, then 4 and 2", lines(7, 4, 0, 5, 1, 2, 0), 2);
+            Checks.due("4 + 1 + 1 and 1 do not go into 6: 5, then 2", lines(6, 4, 0, 5, 1, 2, 0), 3);
+            Checks.due("4 + 1 + 4 and 1 in 10, then 1 and 8", lines(10, 4, 0, 7, 4, 6, 0), 2);
         });
         Checks.holds("and the rest of the word, which has no cut any more, comes first in the next line", () -> {
             Checks.due("rest 5 and 4 in 10", lines(10, 4, 0, 9, 4, 4, 0), 2);
@@ -811,6 +929,13 @@ public final class EdgesOfTermsTest {
             Checks.body(y, 4);
             Checks.tall(y, 0, 0, 4, 12);
             Checks.due("12 lines over 4 rows", Checks.heights(y, 4), "1 1 1 9");
+            TablePages z = Checks.columns(1, 9, 0, 1);
+            Checks.body(z, 2);
+            Checks.figure(z, 0, 1, 200, 0);
+            Checks.figure(z, 1, 1, 100, 0);
+            z.sort(1, false);
+            Checks.tall(z, 1, 0, 2, 5);
+            Checks.due("row 0 is the last of its rows as they stand", Checks.heights(z, 2), "4 1");
         });
         Checks.holds("its last row gets, in head and foot likewise", () -> {
             TablePages x = Checks.columns(1, 9);
@@ -892,6 +1017,12 @@ public final class EdgesOfTermsTest {
             TablePages z = Checks.content(1, 1);
             z.word(z.cell(0, 0, 1, 1), 5, 1);
             Checks.due("no more than the most one is of use", z.leastHeight(), 1);
+            TablePages m = Checks.content(2, 2);
+            m.word(m.cell(0, 0, 1, 1), 3, 1);
+            int long20 = m.cell(0, 1, 1, 1), over = m.cell(1, 0, 1, 2);
+            for (int i = 0; i < 12; i++) m.word(long20, 20, 0);
+            for (int i = 0; i < 12; i++) m.word(over, 5, 0);
+            Checks.due("3 is the most one of column 0, so 5 of 5 are in 3 and 1 and 28", m.leastHeight(), 15);
         });
         Checks.holds("but no more than 8 above the least", () -> {
             Checks.due("9: 5 words of 1 in a line, 12 in 3", leastHeight(1, 60), 3);
@@ -899,6 +1030,13 @@ public final class EdgesOfTermsTest {
             Checks.due("11: 3 words of 3", leastHeight(3, 60), 4);
             Checks.due("15: 2 words of 7", leastHeight(7, 60), 6);
             Checks.due("16: 1 word of 8", leastHeight(8, 60), 12);
+            TablePages x = Checks.columns(0, 1, 0, 1, 0, 1, 1, 9);
+            Checks.body(x, 2);
+            Checks.wide(x, 0, 0, 3, 5, 5, 5, 5, 5, 5, 5, 5, 5, 5);
+            Checks.tall(x, 1, 3, 1, 5);
+            Checks.due("three columns 9, 9 and 9: 5 of 5 in 29, and 5 lines", x.leastHeight(), 7);
+            x.setPaper(38, 30);
+            Checks.due("28 of 29: 4 of 5, and 5 lines", x.leastHeight(), 8);
         });
         Checks.holds("such that the table is not over", () -> {
             Checks.due("15 on 15", leastHeight(7, 15), 6);
@@ -1244,6 +1382,11 @@ public final class EdgesOfTermsTest {
             int[] cells = new int[3];
             for (int i = 0; i < 3; i++) cells[i] = x.cell(i, 0, 1, 1);
             Checks.due("none", Checks.used(x), "3");
+            x.totalled(1);
+            x.setPaper(60, 4);
+            Checks.due("without notes the total is the last item", Checks.used(x), "4");
+            x.totalled(1);
+            x.setPaper(60, 20);
             for (int i = 0; i < 3; i++) x.note(cells[i], i + 1);
             Checks.due("6 lines", Checks.used(x), "9");
             Checks.due("all of them notes", Checks.notes(x), "6");
@@ -1493,6 +1636,7 @@ public final class EdgesOfTermsTest {
         cells();
         shownAndOut();
         contentsOfCells();
+        fullTables();
         pieces();
         figures();
         sumsInColumns();
