@@ -275,6 +275,17 @@ public final class EdgesOfPromisesTest {
             Checks.changesNothing(RICH, STATE, "row 4 is the last of the body", x -> x.cell(4, 1, 2, 1));
             Checks.changesNothing(RICH, STATE, "row 1 is the second of 4 in the body", x -> x.cell(1, 1, 4, 1));
             Checks.due("row 2 is the first of 4 in the body", rich().cell(2, 1, 4, 1), 9);
+            int[] most = {3, 24, 2};
+            for (int part = 0; part < 3; part++) {
+                int p = part;
+                int last = Math.min(4, most[p]);
+                for (int rows = 1; rows <= last; rows++) {
+                    int r = rows;
+                    Checks.Make make = withFull(p, most[p]);
+                    Checks.due(r + " of the last of part " + p, make.make().cell(most[p] - r, 0, r, 1), 0);
+                    if (r < 4) Checks.changesNothing(make, STATE, "one more of part " + p, x -> x.cell(most[p] - r, 0, r + 1, 1));
+                }
+            }
         });
         Checks.holds("Promise 4: or the table has not so many rows or columns", () -> {
             Checks.changesNothing(RICH, STATE, "2 from the last column on", x -> x.cell(4, 3, 1, 2));
@@ -986,6 +997,8 @@ public final class EdgesOfPromisesTest {
         Checks.holds("Promise 27: the first one of the throws clause", () -> {
             Checks.changesNothing(RICH, INDEX, "no row, a hidden column", x -> x.edge(6, 3, 0));
             Checks.changesNothing(RICH, INDEX, "no column, side 4", x -> x.edge(0, 4, 4));
+            Checks.changesNothing(RICH, INDEX, "no row, side 4", x -> x.edge(6, 0, 4));
+            Checks.changesNothing(RICH, INDEX, "row -1, side -1", x -> x.edge(-1, 0, -1));
             Checks.changesNothing(RICH, ARGUMENT, "side 4 of a hidden column", x -> x.edge(3, 3, 4));
         });
     }

@@ -214,6 +214,9 @@ public final class EdgesOfTermsTest {
             Checks.due("the row alone", x.used(0), 1);
             x.totalled(1);
             Checks.due("the other column is totalled", x.used(0), 3);
+            x.totalled(1);
+            x.hide(0);
+            Checks.due("shown again, it is totalled as before", x.used(0), 3);
         });
         Checks.holds("and has no figures", () -> {
             TablePages x = Checks.content(2, 0);
@@ -1154,6 +1157,17 @@ public final class EdgesOfTermsTest {
             Checks.due("columns 0 and 3", x.edge(0, 0, 1), 43);
             Checks.due("from column 3", x.edge(0, 3, 3), 43);
         });
+        Checks.holds("and the columns side by side: what is hidden, and cells that are out, count for nothing", () -> {
+            TablePages x = Checks.content(3, 1);
+            for (int side = 1; side < 4; side += 2) x.border(2, 1, side, 5);
+            x.cell(0, 1, 1, 1);
+            for (int side = 0; side < 4; side++) x.border(0, 0, side, 5);
+            Checks.due("shown", x.edge(0, 0, 1) + x.edge(0, 2, 3), 102);
+            x.hide(1);
+            Checks.due("hidden", x.edge(0, 0, 1) + x.edge(0, 2, 3), 0);
+            x.hide(0);
+            Checks.due("at the outside", x.edge(0, 2, 3), 0);
+        });
         Checks.holds("or at the outside", () -> {
             TablePages x = Checks.content(3, 1);
             x.border(3, 0, 0, 2);
@@ -1357,6 +1371,18 @@ public final class EdgesOfTermsTest {
                 x.totalled(0);
                 Checks.due("groups " + i + ", not totalled", x.used(0), groups[i].length);
             }
+        });
+        Checks.holds("a run of rows of one group, as they stand", () -> {
+            TablePages x = grouped(1, 2, 1, 2);
+            for (int i = 0; i < 4; i++) Checks.figure(x, i, 0, 100 << i, 0);
+            Checks.due("four runs", x.used(0), 9);
+            x.figure(1, 1000, 0);
+            x.sort(0, false);
+            Checks.due("1, 1, 2, 2: two runs", x.used(0), 7);
+            Checks.due("row 0 ends none", x.subtotal(0, 0), 0);
+            Checks.due("row 2 ends the first", x.subtotal(2, 0), 500);
+            Checks.due("row 3 ends none", x.subtotal(3, 0), 0);
+            Checks.due("row 1 ends the second", x.subtotal(1, 0), 1800);
         });
         Checks.holds("a subtotal stands behind its row", () -> {
             TablePages x = grouped(1, 2, 2);
