@@ -1040,6 +1040,14 @@ public final class EdgesOfTermsTest {
             Checks.due("three columns 9, 9 and 9: 5 of 5 in 29, and 5 lines", x.leastHeight(), 7);
             x.setPaper(38, 30);
             Checks.due("28 of 29: 4 of 5, and 5 lines", x.leastHeight(), 8);
+            TablePages y = Checks.columns(0, 1, 0, 1, 0, 1, 1, 9);
+            Checks.body(y, 2);
+            Checks.wide(y, 0, 0, 3, 5, 5, 5, 5, 5, 6, 5, 5, 5);
+            Checks.tall(y, 1, 3, 1, 5);
+            y.setPaper(39, 30);
+            Checks.due("23 above 6 together: 2 and 5 lines", y.leastHeight(), 7);
+            y.setPaper(38, 30);
+            Checks.due("22 above 6 together: 3 and 5 lines", y.leastHeight(), 8);
         });
         Checks.holds("such that the table is not over", () -> {
             Checks.due("15 on 15", leastHeight(7, 15), 6);
